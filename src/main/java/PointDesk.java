@@ -24,7 +24,7 @@ public final class PointDesk {
     private final HullSides hullSides;
     private final Layers layers;
     private final Route route;
-    private final Crossings crossings;
+    private final Crossings sideCrossings;
     private final Triangles triangles;
 
     public PointDesk() {
@@ -33,7 +33,7 @@ public final class PointDesk {
         hullSides = new HullSides(points, hull);
         layers = new Layers(points);
         route = new Route(points);
-        crossings = new Crossings(points, route);
+        sideCrossings = new Crossings(points, route);
         triangles = new Triangles(points, route);
     }
 
@@ -212,13 +212,13 @@ public final class PointDesk {
     }
 
     public int crossings() {
-        crossings.refresh();
-        return crossings.size;
+        sideCrossings.refresh();
+        return sideCrossings.size;
     }
 
     public int crossing(int i) {
-        crossings.refresh();
-        return i >= 0 && i < crossings.size ? crossings.pairs[i] : NONE;
+        sideCrossings.refresh();
+        return i >= 0 && i < sideCrossings.size ? sideCrossings.pairs[i] : NONE;
     }
 
     public int simple() {
@@ -254,8 +254,8 @@ public final class PointDesk {
     }
 
     private boolean isRouteSimple() {
-        crossings.refresh();
-        return crossings.routeIsSimple;
+        sideCrossings.refresh();
+        return sideCrossings.routeIsSimple;
     }
 
     private void requirePoint(int point) {
@@ -333,7 +333,9 @@ public final class PointDesk {
         }
 
         long squaredDistance(int a, int b) {
-            return dotProduct(a, b, b);
+            long alongX = xs[b] - xs[a];
+            long alongY = ys[b] - ys[a];
+            return alongX * alongX + alongY * alongY;
         }
 
         boolean areAtOnePlace(int a, int b) {
@@ -346,16 +348,13 @@ public final class PointDesk {
         }
 
         boolean segmentsMeet(int a, int b, int c, int d) {
-            return (lineParts(a, b, c, d) && lineParts(c, d, a, b))
+            boolean firstParts = handOf(a, b, c) * handOf(a, b, d) < 0;
+            boolean secondParts = handOf(c, d, a) * handOf(c, d, b) < 0;
+            return (firstParts && secondParts)
                     || isOnSegment(a, b, c)
                     || isOnSegment(a, b, d)
                     || isOnSegment(c, d, a)
                     || isOnSegment(c, d, b);
-        }
-
-        /** Whether one of p and q lies on the left of the line from a to b, the other on the right. */
-        private boolean lineParts(int a, int b, int p, int q) {
-            return handOf(a, b, p) * handOf(a, b, q) < 0;
         }
 
         /** Whether p looks along its growing x at the side from a to b. */
@@ -773,23 +772,18 @@ public final class PointDesk {
                 return;
             }
             size = 0;
-            if (route.size >= LEAST_SIDES) {
-                findPairs();
-            }
-            // Three places at one place of the plane have no sides that cross.
-            routeIsSimple = route.size >= LEAST_SIDES && size == 0 && route.pointsAreApart();
-            version = route.version;
-        }
-
-        private void findPairs() {
-            for (int i = 0; i < route.size; i++) {
-                for (int k = i + 1; k < route.size; k++) {
+            int sides = route.size < LEAST_SIDES ? 0 : route.size;
+            for (int i = 0; i < sides; i++) {
+                for (int k = i + 1; k < sides; k++) {
                     if (doCross(i, k)) {
                         pairs[size] = 64 * i + k;
                         size++;
                     }
                 }
             }
+            // Three places at one place of the plane have no sides that cross.
+            routeIsSimple = sides > 0 && size == 0 && route.pointsAreApart();
+            version = route.version;
         }
 
         private boolean doCross(int i, int k) {
@@ -909,9 +903,9 @@ public final class PointDesk {
 
         /** For a triangle that turns inwards; its border belongs to it. */
         private boolean isInTriangle(int a, int p, int b, int q) {
-            return turnInwards(a, p, q) >= 0
-                    && turnInwards(p, b, q) >= 0
-                    && turnInwards(b, a, q) >= 0;
+            return innerSide * points.crossProduct(a, p, q) >= 0
+                    && innerSide * points.crossProduct(p, b, q) >= 0
+                    && innerSide * points.crossProduct(b, a, q) >= 0;
         }
 
         /** What check asks of the triangles of a simple route. */

@@ -344,6 +344,7 @@ public final class PromiseTests {
         due("far of a square", square.pair(0), 64 + 5);
         due("near of a square", square.pair(1), 5);
         due("the last two", desk(0, 0, 10, 0, 20, 0, 29, 0).pair(1), 64 * 2 + 3);
+        due("the first and the last", desk(0, 0, 5, 0, 1, 0).pair(1), 2);
         due("all the same", desk(2, 2, 2, 2, 2, 2).pair(0), 1);
         due("the far ends", desk(0, 0, -100000, -100000, 100000, 100000).pair(0), 64 + 2);
         int[] ways = {-1, 2, MAX, MIN};
@@ -516,6 +517,9 @@ public final class PromiseTests {
             dueIndex("beside(" + point + ", 0, 5)", () -> desk.beside(point, 0, 5));
             dueIndex("beside(" + point + ", same)", () -> desk.beside(point, point, 1));
         }
+        PointDesk unit = desk(0, 0, 1, 0, 0, 1, 0, -1);
+        due("just on the left", unit.beside(0, 1, 1), 1);
+        due("just on the right", unit.beside(0, 1, -1), 1);
         PointDesk far = desk(-100000, -100000, 100000, 99999, 0, 0, 0, -1);
         due("far left", far.beside(0, 1, 1), 1);
         due("far right", far.beside(0, 1, -1), 1);
@@ -612,6 +616,9 @@ public final class PromiseTests {
         go(twice, 0, 0, 0, 0);
         due("four places at one: sides 0 and 2, 1 and 3", twice.crossings(), 2);
         due("a line there and back", routed(0, 0, 3, 0, 6, 0).crossings(), 2);
+        PointDesk unit = desk(0, 0, 1, 0);
+        go(unit, 0, 1, 0);
+        due("one step there and back", unit.crossings(), 1);
         due("a triangle", routed(0, 0, 3, 0, 0, 6).crossings(), 0);
         due("a bow", routed(0, 0, 4, 4, 4, 0, 0, 4).crossings(), 1);
         due("touched by a place", routed(0, 0, 8, 0, 8, 4, 4, 0, 0, 4).crossings(), 2);
@@ -722,6 +729,11 @@ public final class PromiseTests {
             due("far away", desk.inside(100000, -100000), -1);
             tooLarge((x, y) -> desk.inside(x, y), "inside");
         }
+        PointDesk odd = routed(0, 0, 8, 0, 3, 8);
+        due("within three sides", odd.inside(3, 3), 1);
+        due("above three sides", odd.inside(3, 9), -1);
+        due("below three sides", odd.inside(3, -1), -1);
+        due("beside three sides", odd.inside(0, 7), -1);
         tooLarge((x, y) -> new PointDesk().inside(x, y), "inside no route");
         due("stays simple", left.simple(), 1);
     }
@@ -734,6 +746,7 @@ public final class PromiseTests {
         dueTriangles("three", routed(0, 0, 4, 0, 0, 4), 0, 1, 2);
         dueTriangles("three, right round", routed(0, 0, 0, 4, 4, 0), 0, 1, 2);
         dueTriangles("four", routed(0, 0, 4, 0, 4, 4, 0, 4), 3, 0, 1, 1, 2, 3);
+        dueTriangles("four, as small as can be", routed(0, 0, 1, 0, 1, 1, 0, 1), 3, 0, 1, 1, 2, 3);
         dueTriangles("a dent", routed(0, 0, 8, 0, 2, 2, 0, 8), 0, 1, 2, 0, 2, 3);
         dueTriangles("a dent, right round", routed(0, 0, 0, 8, 2, 2, 8, 0), 0, 1, 2, 0, 2, 3);
         dueTriangles("a straight place is no ear", routed(4, 0, 8, 0, 4, 8, 0, 0),
@@ -768,6 +781,8 @@ public final class PromiseTests {
         due("a bow", routed(0, 0, 4, 4, 4, 0, 0, 4).check(), 1);
         due("left round", routed(10, 10, 18, 10, 18, 18, 12, 12).check(), 1);
         due("right round", routed(10, 10, 12, 18, 18, 18, 18, 10).check(), 1);
+        due("as small as can be", routed(0, 0, 1, 0, 0, 1).check(), 1);
+        due("as small as can be, right round", routed(0, 0, 0, 1, 1, 0).check(), 1);
         due("the far ends", routed(-100000, -100000, 100000, -100000, 100000, 100000,
                 -100000, 100000, 99999, 0).check(), 1);
         PointDesk desk = routed(0, 0, 4, 0, 4, 4);
