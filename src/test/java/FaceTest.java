@@ -147,7 +147,8 @@ public final class FaceTest {
     }
 
     private static void useOften(PointDesk desk) {
-        for (int i = 0; i < 60; i++) {
+        // Twelve calls a turn, so that the object stays below its 512.
+        for (int i = 0; i < 40; i++) {
             desk.add(i, i * i);
             desk.go(i);
             desk.count(i % 6);

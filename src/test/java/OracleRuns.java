@@ -12,7 +12,8 @@ import java.util.Set;
  * follows the words of the document one by one and shares no way of working with the class.
  */
 public final class OracleRuns {
-    private static final int[] ODD = {-1, 2, 3, 7, 40, 60, 64, Integer.MAX_VALUE, Integer.MIN_VALUE};
+    private static final int[] ODD =
+            {-1, 2, 3, 7, 40, 60, 64, Integer.MAX_VALUE, Integer.MIN_VALUE};
     private static final int CALLS_OF_AN_OBJECT = 512;
 
     private static int wrong = 0;
@@ -110,7 +111,8 @@ public final class OracleRuns {
                     () -> d.count(what), () -> s.count(what)); break;
             case 3: compare(name + "at(" + a + ", " + c + ")",
                     () -> d.at(a, c), () -> s.at(a, c)); break;
-            case 4: compare(name + "corner(" + a + ")", () -> d.corner(a), () -> s.corner(a)); break;
+            case 4: compare(name + "corner(" + a + ")",
+                    () -> d.corner(a), () -> s.corner(a)); break;
             case 5: compare(name + "area()", d::area, s::area); break;
             case 6: compare(name + "layer(" + a + ")", () -> d.layer(a), () -> s.layer(a)); break;
             case 7: compare(name + "pair(" + c + ")", () -> d.pair(c), () -> s.pair(c)); break;
@@ -415,7 +417,7 @@ public final class OracleRuns {
             return Math.abs(sum);
         }
 
-        /** A place is on the border if a line through it and another has none on one of its hands. */
+        /** On the border: a line through the place and another has none on one of its hands. */
         static boolean isOnBorder(long[] p, List<long[]> all) {
             boolean isAlone = true;
             for (long[] q : all) {

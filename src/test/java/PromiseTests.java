@@ -1,19 +1,7 @@
-import java.util.ArrayList;
-import java.util.List;
+import java.math.BigInteger;
 
 /** For each promise of the document: ordinary inputs, the edges it names, and wrong inputs. */
-public final class PromiseTests {
-    private static final int MIN = Integer.MIN_VALUE;
-    private static final int MAX = Integer.MAX_VALUE;
-
-    private static int wrong = 0;
-    private static int asked = 0;
-    private static String promise = "";
-
-    private interface Call {
-        Object run();
-    }
-
+public final class PromiseTests extends Checks {
     public static void main(String[] args) {
         promise1NewObject();
         promise2Add();
@@ -42,103 +30,11 @@ public final class PromiseTests {
         promise25Triangle();
         promise26Check();
         whatThrowsChangesNothing();
-        System.out.println(asked + " answers asked, " + wrong + " not as due");
-        if (wrong != 0) {
-            System.exit(1);
-        }
-    }
-
-    private static void due(String call, Object got, long want) {
-        asked++;
-        if (((Number) got).longValue() != want) {
-            wrong++;
-            System.out.println(promise + ": " + call + " answered " + got + ", due is " + want);
-        }
-    }
-
-    private static void dueThrow(String call, Class<? extends RuntimeException> want, Call run) {
-        asked++;
-        String got;
-        try {
-            got = "answered " + run.run();
-        } catch (RuntimeException e) {
-            if (e.getClass() == want) {
-                return;
-            }
-            got = "threw " + e;
-        }
-        wrong++;
-        System.out.println(promise + ": " + call + " " + got + ", due is " + want.getSimpleName());
-    }
-
-    private static void dueIndex(String call, Call run) {
-        dueThrow(call, IndexOutOfBoundsException.class, run);
-    }
-
-    private static void dueArgument(String call, Call run) {
-        dueThrow(call, IllegalArgumentException.class, run);
-    }
-
-    private static PointDesk desk(int... numbers) {
-        PointDesk desk = new PointDesk();
-        for (int i = 0; i + 1 < numbers.length; i += 2) {
-            desk.add(numbers[i], numbers[i + 1]);
-        }
-        return desk;
-    }
-
-    private static void go(PointDesk desk, int... route) {
-        desk.stop();
-        for (int point : route) {
-            desk.go(point);
-        }
-    }
-
-    /** A route through all points in their order. */
-    private static PointDesk routed(int... numbers) {
-        PointDesk desk = desk(numbers);
-        for (int i = 0; i < numbers.length / 2; i++) {
-            desk.go(i);
-        }
-        return desk;
-    }
-
-    private static void dueCorners(String name, PointDesk desk, int... want) {
-        due(name + " count(1)", desk.count(1), want.length);
-        for (int i = 0; i < want.length; i++) {
-            due(name + " corner(" + i + ")", desk.corner(i), want[i]);
-        }
-        due(name + " corner behind the last", desk.corner(want.length), -1);
-    }
-
-    private static void dueLayers(String name, PointDesk desk, int layers, int... want) {
-        due(name + " count(2)", desk.count(2), layers);
-        for (int i = 0; i < want.length; i++) {
-            due(name + " layer(" + i + ")", desk.layer(i), want[i]);
-        }
-        due(name + " layer behind the last", desk.layer(want.length), -1);
-    }
-
-    private static void dueCrossings(String name, PointDesk desk, int... want) {
-        due(name + " crossings()", desk.crossings(), want.length);
-        for (int i = 0; i < want.length; i++) {
-            due(name + " crossing(" + i + ")", desk.crossing(i), want[i]);
-        }
-        due(name + " crossing behind the last", desk.crossing(want.length), -1);
-        due(name + " crossing(-1)", desk.crossing(-1), -1);
-    }
-
-    private static void dueTriangles(String name, PointDesk desk, int... want) {
-        for (int i = 0; i + 2 < want.length; i += 3) {
-            due(name + " triangle(" + i / 3 + ")", desk.triangle(i / 3),
-                    4096 * want[i] + 64 * want[i + 1] + want[i + 2]);
-        }
-        due(name + " triangle behind the last", desk.triangle(want.length / 3), -1);
-        due(name + " triangle(-1)", desk.triangle(-1), -1);
+        finish();
     }
 
     private static void promise1NewObject() {
-        promise = "promise 1";
+        about("promise 1");
         due("NONE", PointDesk.NONE, -1);
         PointDesk desk = new PointDesk();
         for (int what = 0; what <= 5; what++) {
@@ -154,7 +50,7 @@ public final class PromiseTests {
     }
 
     private static void promise2Add() {
-        promise = "promise 2";
+        about("promise 2");
         PointDesk desk = new PointDesk();
         int[][] tooLarge = {{100001, 0}, {-100001, 0}, {0, 100001}, {0, -100001}, {MAX, 0},
             {MIN, 0}, {0, MAX}, {0, MIN}, {100001, 100001}};
@@ -179,12 +75,12 @@ public final class PromiseTests {
     }
 
     private static void promise3Clear() {
-        promise = "promise 3";
+        about("promise 3");
         PointDesk desk = routed(0, 0, 9, 0, 9, 9, 0, 9, 4, 4);
         due("area()", desk.area(), 162);
         due("layer(4)", desk.layer(4), 1);
         due("crossings() before", desk.crossings(), 0);
-        due("triangle(0) before", desk.triangle(0), 4096 * 4 + 64 * 0 + 1);
+        due("triangle(0) before", desk.triangle(0), triangle(4, 0, 1));
         due("clear()", desk.clear(), 5);
         for (int what = 0; what <= 5; what++) {
             due("count(" + what + ") after clear", desk.count(what), 0);
@@ -204,7 +100,7 @@ public final class PromiseTests {
     }
 
     private static void promise4Count() {
-        promise = "promise 4";
+        about("promise 4");
         PointDesk desk = desk(0, 0, 4, 0, 4, 4, 0, 4, 2, 2, 2, 2, 2, 2, 1, 2);
         go(desk, 0, 0, 7);
         due("count(0)", desk.count(0), 8);
@@ -219,10 +115,7 @@ public final class PromiseTests {
         for (int what : others) {
             due("count(" + what + ")", desk.count(what), -1);
         }
-        PointDesk full = new PointDesk();
-        for (int i = 0; i < 60; i++) {
-            full.add(5, 5);
-        }
+        PointDesk full = atOnePlace(60);
         due("count(1) of 60 at one place", full.count(1), 1);
         due("count(2) of 60 at one place", full.count(2), 1);
         due("count(4) of 60 at one place", full.count(4), 60 * 59 / 2);
@@ -232,7 +125,7 @@ public final class PromiseTests {
     }
 
     private static void promise5At() {
-        promise = "promise 5";
+        about("promise 5");
         PointDesk desk = desk(3, -4, -5, 6);
         due("at(0, 0)", desk.at(0, 0), 3);
         due("at(0, 1)", desk.at(0, 1), -4);
@@ -250,7 +143,7 @@ public final class PromiseTests {
     }
 
     private static void promise6Corner() {
-        promise = "promise 6";
+        about("promise 6");
         dueCorners("none", desk());
         dueCorners("one", desk(7, 7), 0);
         dueCorners("one place", desk(7, 7, 7, 7, 7, 7), 0);
@@ -270,10 +163,7 @@ public final class PromiseTests {
         for (int i : none) {
             due("corner(" + i + ")", desk.corner(i), -1);
         }
-        PointDesk curve = new PointDesk();
-        for (int i = 0; i < 60; i++) {
-            curve.add(i, i * i);
-        }
+        PointDesk curve = curve(60);
         due("count(1) of a curve", curve.count(1), 60);
         for (int i = 0; i < 60; i++) {
             due("corner(" + i + ") of a curve", curve.corner(i), i);
@@ -284,7 +174,7 @@ public final class PromiseTests {
     }
 
     private static void promise7Area() {
-        promise = "promise 7";
+        about("promise 7");
         due("none", desk().area(), 0);
         due("one", desk(4, 5).area(), 0);
         due("a line", desk(0, 0, 7, 7, 3, 3).area(), 0);
@@ -296,7 +186,7 @@ public final class PromiseTests {
     }
 
     private static void promise8Layer() {
-        promise = "promise 8";
+        about("promise 8");
         dueLayers("none", desk(), 0);
         dueLayers("one", desk(3, 3), 1, 0);
         dueLayers("a line", desk(0, 0, 1, 1, 2, 2, 1, 1), 1, 0, 0, 0, 0);
@@ -306,12 +196,7 @@ public final class PromiseTests {
                 2, 0, 0, 0, 0, 1, 1, 1, 1);
         dueLayers("several at a corner", desk(0, 0, 6, 0, 0, 6, 6, 0, 1, 1, 1, 1),
                 2, 0, 0, 0, 0, 1, 1);
-        PointDesk deep = new PointDesk();
-        for (int i = 0; i < 20; i++) {
-            deep.add(-100000 + 3 * i, -100000 + 2 * i);
-            deep.add(100000 - 3 * i, -100000 + 2 * i);
-            deep.add(0, 100000 - 5 * i);
-        }
+        PointDesk deep = trianglesWithinEachOther(20);
         due("count(2) of triangles", deep.count(2), 20);
         for (int p = 0; p < 60; p++) {
             due("layer(" + p + ") of triangles", deep.layer(p), p / 3);
@@ -329,7 +214,7 @@ public final class PromiseTests {
     }
 
     private static void promise9Pair() {
-        promise = "promise 9";
+        about("promise 9");
         due("none, far", desk().pair(0), -1);
         due("one, near", desk(1, 1).pair(1), -1);
         due("two, far", desk(1, 1, 5, 5).pair(0), 1);
@@ -354,7 +239,7 @@ public final class PromiseTests {
     }
 
     private static void promise10Distance() {
-        promise = "promise 10";
+        about("promise 10");
         PointDesk desk = desk(0, 0, 3, 4, 3, 4, -100000, -100000, 100000, 100000);
         due("distance(0, 1)", desk.distance(0, 1), 25);
         due("distance(1, 0)", desk.distance(1, 0), 25);
@@ -369,7 +254,7 @@ public final class PromiseTests {
     }
 
     private static void promise11Best() {
-        promise = "promise 11";
+        about("promise 11");
         due("none", desk().best(0), -1);
         due("a line", desk(0, 0, 5, 5).best(1), -1);
         PointDesk flat = desk(0, 0, 1, 0, 9, 4, 8, 4);
@@ -399,8 +284,8 @@ public final class PromiseTests {
     private static int bestByHand(PointDesk desk, int what) {
         int found = 0;
         for (int i = 1; i < desk.count(1); i++) {
-            java.math.BigInteger mine = product(desk, i, what).multiply(big(desk.side(found, 1)));
-            java.math.BigInteger other = product(desk, found, what).multiply(big(desk.side(i, 1)));
+            BigInteger mine = product(desk, i, what).multiply(big(desk.side(found, 1)));
+            BigInteger other = product(desk, found, what).multiply(big(desk.side(i, 1)));
             if (mine.compareTo(other) < 0) {
                 found = i;
             }
@@ -408,16 +293,16 @@ public final class PromiseTests {
         return found;
     }
 
-    private static java.math.BigInteger product(PointDesk desk, int i, int what) {
+    private static BigInteger product(PointDesk desk, int i, int what) {
         return big(desk.side(i, 0)).multiply(big(desk.side(i, what == 0 ? 0 : 2)));
     }
 
-    private static java.math.BigInteger big(long value) {
-        return java.math.BigInteger.valueOf(value);
+    private static BigInteger big(long value) {
+        return BigInteger.valueOf(value);
     }
 
     private static void promise12Side() {
-        promise = "promise 12";
+        about("promise 12");
         PointDesk desk = desk(0, 0, 6, 0, 9, 3, 2, 5, 4, 2);
         long[][] want = {{30, 36, 54}, {27, 18, 36}, {39, 53, 57}, {39, 29, 33}};
         for (int i = 0; i < 4; i++) {
@@ -446,7 +331,7 @@ public final class PromiseTests {
     }
 
     private static void promise13Where() {
-        promise = "promise 13";
+        about("promise 13");
         due("without points", desk().where(0, 0), -1);
         PointDesk one = desk(5, 5, 5, 5);
         due("at the one place", one.where(5, 5), 0);
@@ -466,24 +351,12 @@ public final class PromiseTests {
         due("outside", desk.where(11, 5), -1);
         due("far away", desk.where(-100000, 100000), -1);
         due("count(0) stays", desk.count(0), 4);
-        tooLarge((x, y) -> desk.where(x, y), "where");
-        tooLarge((x, y) -> new PointDesk().where(x, y), "where without points");
-    }
-
-    private interface Place {
-        int ask(int x, int y);
-    }
-
-    private static void tooLarge(Place call, String name) {
-        int[] numbers = {100001, -100001, MAX, MIN};
-        for (int n : numbers) {
-            dueArgument(name + "(" + n + ", 0)", () -> call.ask(n, 0));
-            dueArgument(name + "(0, " + n + ")", () -> call.ask(0, n));
-        }
+        dueArgumentBeyondTheLimits("where", (x, y) -> desk.where(x, y));
+        dueArgumentBeyondTheLimits("where without points", (x, y) -> new PointDesk().where(x, y));
     }
 
     private static void promise14Nearest() {
-        promise = "promise 14";
+        about("promise 14");
         due("without points", desk().nearest(0, 0), -1);
         PointDesk desk = desk(0, 0, 10, 0, 10, 0, 5, 8, -100000, -100000);
         due("at a point", desk.nearest(5, 8), 3);
@@ -492,12 +365,13 @@ public final class PromiseTests {
         due("two as near, the least", desk.nearest(10, 0), 1);
         due("a far one", desk.nearest(-100000, -50001), 4);
         due("the farthest", desk(-100000, -100000).nearest(100000, 100000), 0);
-        tooLarge((x, y) -> desk.nearest(x, y), "nearest");
-        tooLarge((x, y) -> new PointDesk().nearest(x, y), "nearest without points");
+        dueArgumentBeyondTheLimits("nearest", (x, y) -> desk.nearest(x, y));
+        dueArgumentBeyondTheLimits("nearest without points",
+                (x, y) -> new PointDesk().nearest(x, y));
     }
 
     private static void promise15Beside() {
-        promise = "promise 15";
+        about("promise 15");
         PointDesk desk = desk(0, 0, 4, 0, 2, 3, 9, 1, -5, 0, 1, -1, 0, 0);
         due("left", desk.beside(0, 1, 1), 2);
         due("right", desk.beside(0, 1, -1), 1);
@@ -526,7 +400,7 @@ public final class PromiseTests {
     }
 
     private static void promise16Go() {
-        promise = "promise 16";
+        about("promise 16");
         PointDesk desk = desk(1, 1, 2, 2);
         int[] none = {-1, 2, 60, MAX, MIN};
         for (int point : none) {
@@ -543,7 +417,7 @@ public final class PromiseTests {
     }
 
     private static void promise17Stop() {
-        promise = "promise 17";
+        about("promise 17");
         PointDesk desk = routed(0, 0, 4, 0, 0, 4);
         due("simple()", desk.simple(), 1);
         due("stop()", desk.stop(), 3);
@@ -557,7 +431,7 @@ public final class PromiseTests {
     }
 
     private static void promise18Place() {
-        promise = "promise 18";
+        about("promise 18");
         PointDesk desk = desk(0, 0, 4, 0, 0, 4);
         go(desk, 2, 0, 2, 1);
         int[] want = {2, 0, 2, 1};
@@ -570,15 +444,8 @@ public final class PromiseTests {
         }
     }
 
-    private static void dueRoute(String name, PointDesk desk, int... want) {
-        due(name + " count(3)", desk.count(3), want.length);
-        for (int i = 0; i < want.length; i++) {
-            due(name + " place(" + i + ")", desk.place(i), want[i]);
-        }
-    }
-
     private static void promise19Turn() {
-        promise = "promise 19";
+        about("promise 19");
         PointDesk desk = routed(0, 0, 4, 0, 4, 4, 0, 4, 2, 7);
         desk.turn(1, 3);
         dueRoute("turn(1, 3)", desk, 0, 3, 2, 1, 4);
@@ -590,10 +457,7 @@ public final class PromiseTests {
         dueRoute("turn(0, 4)", desk, 4, 0, 3, 2, 1);
         int[][] none = {{3, 2}, {-1, 2}, {0, 5}, {5, 5}, {-1, -1}, {MIN, MAX}, {4, 0}, {0, MAX}};
         for (int[] ends : none) {
-            dueIndex("turn(" + ends[0] + ", " + ends[1] + ")", () -> {
-                desk.turn(ends[0], ends[1]);
-                return "nothing";
-            });
+            dueTurnThrows(desk, ends[0], ends[1]);
         }
         dueRoute("turns that throw", desk, 4, 0, 3, 2, 1);
         PointDesk square = routed(0, 0, 4, 0, 4, 4, 0, 4);
@@ -605,7 +469,7 @@ public final class PromiseTests {
     }
 
     private static void promise20Crossings() {
-        promise = "promise 20";
+        about("promise 20");
         due("no route", desk(0, 0, 1, 1).crossings(), 0);
         due("two places", routed(0, 0, 1, 1).crossings(), 0);
         PointDesk twice = desk(0, 0, 9, 9);
@@ -628,15 +492,11 @@ public final class PromiseTests {
                 routed(0, 0, 2, 0, 2, 5, 4, 5, 4, 0, 6, 0, 6, 9, 0, 9).crossings(), 0);
         PointDesk star = routed(0, 100, -59, -81, 95, 31, -95, 31, 59, -81);
         due("a star", star.crossings(), 5);
-        PointDesk most = desk(0, 0, 9, 0);
-        for (int i = 0; i < 40; i++) {
-            most.go(i % 2);
-        }
-        due("40 places to and fro", most.crossings(), 780);
+        due("40 places to and fro", toAndFro(40).crossings(), 780);
     }
 
     private static void promise21Crossing() {
-        promise = "promise 21";
+        about("promise 21");
         dueCrossings("no route", desk());
         dueCrossings("a bow", routed(0, 0, 4, 4, 4, 0, 0, 4), 2);
         dueCrossings("the other sides of a bow", routed(0, 0, 4, 0, 0, 4, 4, 4), 64 + 3);
@@ -644,27 +504,25 @@ public final class PromiseTests {
                 2, 3, 64 + 3, 64 + 4, 128 + 4);
         dueCrossings("a line there and back", routed(0, 0, 3, 0, 6, 0), 2, 64 + 2);
         dueCrossings("the first and the last fold", routed(3, 0, 6, 0, 0, 6, 9, 0), 3, 64 + 3);
-        PointDesk most = desk(0, 0, 9, 0);
-        for (int i = 0; i < 40; i++) {
-            most.go(i % 2);
-        }
-        List<Integer> want = new ArrayList<>();
+        // Two objects, because one is good for 512 calls.
+        PointDesk low = toAndFro(40);
+        PointDesk high = toAndFro(40);
+        int pair = 0;
         for (int i = 0; i < 40; i++) {
             for (int k = i + 1; k < 40; k++) {
-                want.add(64 * i + k);
+                PointDesk most = pair < 400 ? low : high;
+                due("crossing(" + pair + ") to and fro", most.crossing(pair), 64 * i + k);
+                pair++;
             }
-        }
-        for (int i = 0; i < want.size(); i++) {
-            due("crossing(" + i + ") to and fro", most.crossing(i), want.get(i));
         }
         int[] none = {-1, 780, MAX, MIN};
         for (int i : none) {
-            due("crossing(" + i + ")", most.crossing(i), -1);
+            due("crossing(" + i + ")", high.crossing(i), -1);
         }
     }
 
     private static void promise22Simple() {
-        promise = "promise 22";
+        about("promise 22");
         due("no route", desk(0, 0).simple(), 0);
         due("one place", routed(0, 0).simple(), 0);
         due("two places", routed(0, 0, 4, 4).simple(), 0);
@@ -689,7 +547,7 @@ public final class PromiseTests {
     }
 
     private static void promise23Round() {
-        promise = "promise 23";
+        about("promise 23");
         due("no route", desk().round(), 0);
         due("two places", routed(3, 1, 1, 4).round(), 0);
         due("left round", routed(0, 0, 4, 0, 4, 3).round(), 12);
@@ -704,7 +562,7 @@ public final class PromiseTests {
     }
 
     private static void promise24Inside() {
-        promise = "promise 24";
+        about("promise 24");
         due("no route", desk().inside(0, 0), -2);
         due("not simple", routed(0, 0, 4, 4, 4, 0, 0, 4).inside(9, 9), -2);
         int[] comb = {0, 0, 10, 0, 10, 6, 8, 2, 6, 6, 4, 2, 2, 6, 0, 2};
@@ -727,19 +585,19 @@ public final class PromiseTests {
             due("at a place", desk.inside(8, 2), 0);
             due("on the ground", desk.inside(3, 0), 0);
             due("far away", desk.inside(100000, -100000), -1);
-            tooLarge((x, y) -> desk.inside(x, y), "inside");
+            dueArgumentBeyondTheLimits("inside", (x, y) -> desk.inside(x, y));
         }
         PointDesk odd = routed(0, 0, 8, 0, 3, 8);
         due("within three sides", odd.inside(3, 3), 1);
         due("above three sides", odd.inside(3, 9), -1);
         due("below three sides", odd.inside(3, -1), -1);
         due("beside three sides", odd.inside(0, 7), -1);
-        tooLarge((x, y) -> new PointDesk().inside(x, y), "inside no route");
+        dueArgumentBeyondTheLimits("inside no route", (x, y) -> new PointDesk().inside(x, y));
         due("stays simple", left.simple(), 1);
     }
 
     private static void promise25Triangle() {
-        promise = "promise 25";
+        about("promise 25");
         dueTriangles("no route", desk());
         dueTriangles("two places", routed(0, 0, 1, 1));
         dueTriangles("not simple", routed(0, 0, 4, 4, 4, 0, 0, 4));
@@ -755,26 +613,22 @@ public final class PromiseTests {
                 0, 1, 2, 0, 2, 3);
         dueTriangles("a place that touches from afar hinders",
                 routed(0, 0, 8, 0, 8, 8, 4, 4, 1, 8), 1, 2, 3, 0, 1, 3, 0, 3, 4);
-        PointDesk curve = new PointDesk();
-        for (int i = 0; i < 40; i++) {
-            curve.add(i, i * i);
-            curve.go(i);
-        }
-        due("first of the most", curve.triangle(0), 4096 * 39 + 64 * 0 + 1);
-        due("second of the most", curve.triangle(1), 4096 * 39 + 64 * 1 + 2);
-        due("last of the most", curve.triangle(37), 4096 * 37 + 64 * 38 + 39);
+        PointDesk curve = curveRouted(40);
+        due("first of the most", curve.triangle(0), triangle(39, 0, 1));
+        due("second of the most", curve.triangle(1), triangle(39, 1, 2));
+        due("last of the most", curve.triangle(37), triangle(37, 38, 39));
         int[] none = {-1, 38, 40, MAX, MIN};
         for (int i : none) {
             due("triangle(" + i + ")", curve.triangle(i), -1);
         }
         curve.turn(0, 39);
-        due("turned round", curve.triangle(0), 4096 * 39 + 64 * 0 + 1);
+        due("turned round", curve.triangle(0), triangle(39, 0, 1));
         curve.turn(3, 4);
         due("no longer simple", curve.triangle(0), -1);
     }
 
     private static void promise26Check() {
-        promise = "promise 26";
+        about("promise 26");
         due("none", desk().check(), 1);
         due("one", desk(8, 8).check(), 1);
         due("a line", desk(8, 8, 3, 3, 1, 1).check(), 1);
@@ -798,7 +652,7 @@ public final class PromiseTests {
     }
 
     private static void whatThrowsChangesNothing() {
-        promise = "what throws changes nothing";
+        about("what throws changes nothing");
         PointDesk desk = routed(0, 0, 8, 0, 8, 8, 0, 8);
         dueIndex("at", () -> desk.at(4, 0));
         dueIndex("distance", () -> desk.distance(4, 0));
@@ -807,10 +661,7 @@ public final class PromiseTests {
         dueArgument("where", () -> desk.where(100001, 0));
         dueArgument("nearest", () -> desk.nearest(100001, 0));
         dueArgument("inside", () -> desk.inside(100001, 0));
-        dueIndex("turn", () -> {
-            desk.turn(0, 4);
-            return "nothing";
-        });
+        dueTurnThrows(desk, 0, 4);
         due("count(0)", desk.count(0), 4);
         dueRoute("the route", desk, 0, 1, 2, 3);
         due("area()", desk.area(), 128);
