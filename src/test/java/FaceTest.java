@@ -27,6 +27,7 @@ public final class FaceTest {
 
     public static void main(String[] args) throws IOException {
         faceIsTheDocuments();
+        constantIsPublic();
         restIsPrivate();
         classesInsideAreStatic();
         noForbiddenWords();
@@ -77,15 +78,18 @@ public final class FaceTest {
         due(PointDesk.class.getDeclaredConstructors().length == 1, "more constructors");
     }
 
+    private static void constantIsPublic() {
+        Field[] constants = PointDesk.class.getFields();
+        String want = "public static final int PointDesk.NONE";
+        due(constants.length == 1 && constants[0].toString().equals(want),
+                "the public fields are " + Arrays.toString(constants));
+    }
+
     private static void restIsPrivate() {
-        Set<String> faceNames = new TreeSet<>();
-        for (Method method : PointDesk.class.getMethods()) {
-            faceNames.add(method.getName());
-        }
         for (Method method : PointDesk.class.getDeclaredMethods()) {
             if (!Modifier.isPublic(method.getModifiers())) {
                 dueHidden(method);
-                due(!faceNames.contains(method.getName()), "a public name: " + method);
+                dueNamedUnlikeTheFace(method);
             }
         }
         for (Field field : PointDesk.class.getDeclaredFields()) {
@@ -102,6 +106,12 @@ public final class FaceTest {
         due(Modifier.isPrivate(member.getModifiers()), "not private: " + member);
     }
 
+    private static void dueNamedUnlikeTheFace(Method method) {
+        for (Method ofTheFace : PointDesk.class.getMethods()) {
+            due(!ofTheFace.getName().equals(method.getName()), "a public name: " + method);
+        }
+    }
+
     private static void classesInsideAreStatic() {
         Class<?>[] inside = PointDesk.class.getDeclaredClasses();
         due(inside.length <= 12, "too many classes");
@@ -109,6 +119,10 @@ public final class FaceTest {
             due(Modifier.isStatic(each.getModifiers()), "not static: " + each);
             due(!Modifier.isPublic(each.getModifiers()), "public: " + each);
             due(each.getDeclaredFields().length <= 20, "too many fields: " + each);
+            for (Method method : each.getDeclaredMethods()) {
+                due(method.getParameterCount() <= 7, "too many parameters: " + method);
+                dueNamedUnlikeTheFace(method);
+            }
         }
     }
 

@@ -70,7 +70,7 @@ public final class PromiseTests extends Checks {
         due("add beyond 60", desk.add(0, 0), -1);
         due("count(0) stays 60", desk.count(0), 60);
         due("at(59, 1) stays", desk.at(59, 1), 59 * 59);
-        due("where(7, 49) with 60 points", desk.where(7, 50), 1);
+        due("where(7, 50) with 60 points", desk.where(7, 50), 1);
         due("at(59, 0) behind where", desk.at(59, 0), 59);
     }
 
